@@ -52,6 +52,9 @@ public final class ChannelTest {
         both("(0, 50, 4000, 5)", x, 0, 50, 4000, 50);
         x.pass(1000000000 - x.time());
         both("at 1000000000", x, 0, 1, 1, 1);
+        x.undo();
+        x.pass(1);
+        both("at 1000000001", x, 0, 1, 1, OVERFLOW);
         both("after 1000000000", x, 0, 1, 1, OVERFLOW);
         for (int chain = 0; chain < 6; chain++) {
             x.lay(0, 1);

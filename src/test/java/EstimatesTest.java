@@ -17,6 +17,7 @@ public final class EstimatesTest {
         throughput();
         rolesByValue();
         secondAndSlowest();
+        nominalFrame();
         surest();
         refusal();
         rateOfMode();
@@ -155,6 +156,22 @@ public final class EstimatesTest {
         due.is("884, 885, 1052", x.role(0, 3), 2);
         x = Due.network(1, 1, 120, 2, 110);
         due.is("884, 890", x.role(0, 3), x.airTime(1, 1200) > x.airTime(0, 1200) ? 1 : 0);
+    }
+
+    /** Sizes and bits a little off would turn these orders round. */
+    private static void nominalFrame() {
+        RetryChains x = Due.network(1, 1, 376, 2, 370);
+        due.is("336 and 338 at 1200 bytes, 336 and 334 at 1199", x.role(0, 3), 1);
+        x = Due.network(1, 2, 382, 1, 389);
+        due.is("327 and 328 at 1200 bytes, 331 and 328 at 1201", x.role(0, 3), 1);
+        x = Due.network(1, 1, 560, 1, 1203);
+        Due.teach(x, 0, 0, 1, 1, 1, 1, 2, 2, 2);
+        Due.teach(x, 0, 1, 2, 2, 2, 3);
+        due.is("45875 * 9600 / 252 < 29127 * 9600 / 160", x.role(0, 0), 1);
+        x = Due.network(1, 1, 482, 0, 1055);
+        Due.teach(x, 0, 0, 1, 2, 2, 2);
+        Due.teach(x, 0, 1, 1, 1, 1, 1, 2, 2, 2);
+        due.is("37449 * 9600 / 280 = 45875 * 9600 / 343", x.role(0, 0), 1);
     }
 
     private static void surest() {

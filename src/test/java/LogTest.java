@@ -266,11 +266,15 @@ public final class LogTest {
         due.is("digest() of a new object", x.digest(), byWords(x, 0, 0));
         x = Due.network(2, 1, 540, 1, 240, 1, 60);
         Due.teach(x, 1, 1, 3, 0);
+        x.setShare(50);
+        x.enqueue(1, 10);
         x.enqueue(1, 10);
         x.dispatch();
         x.lay(0, 100);
         x.lay(0, 100);
         x.report(1, 1, true);
+        due.is("sampled(0)", x.sampled(0), 1);
+        due.is("queued(1)", x.queued(1), 1);
         due.is("digest()", x.digest(), byWords(x, 2, 3));
         Due.tries(x, 1, 0, 0, 0, 0);
         x.lay(1, 100);

@@ -126,6 +126,22 @@ public final class SendingTest {
         refusalIs(x, 2, 13, NONE);
 
         x = beforeFirstDraw(rates);
+        Due.teach(x, 0, 2, 1, 1, 1, 1, 1, 1, 1, 1, 1, 1, 1, 1, 1, 1, 1, 1, 1, 1, 2);
+        Due.teach(x, 0, 0, 1);
+        Due.teach(x, 0, 1, 1);
+        due.is("estimate(0, 2)", x.estimate(0, 2), 62259);
+        x.setShare(50);
+        x.lay(0, 100);
+        refusalIs(x, 2, 13, NONE);
+
+        // tried, but no slower than surest
+        x = beforeFirstDraw(1, 240, 1, 240, 1, 240, 1, 60);
+        Due.tries(x, 0, 2, 1);
+        x.setShare(50);
+        x.lay(0, 100);
+        chainIs(x, 0, 1, 2, 0, 0, 3);
+
+        x = beforeFirstDraw(rates);
         Due.teach(x, 0, 2, 1);
         x.allow(0, 2, false);
         x.setShare(50);
@@ -178,6 +194,22 @@ public final class SendingTest {
         due.is("100 > 2 * 34", x.refusal(0, 0), 1);
         x.lay(0, 1);
         due.is("100 <= 3 * 34", x.kind(2), 1);
+        x = Due.network(1, 1, 240, 1, 240, 1, 60, 1, 540);
+        x.setShare(33);
+        x.lay(0, 1);
+        x.lay(0, 1);
+        x.lay(0, 1);
+        due.is("100 > 3 * 33", x.refusal(0, 0), 1);
+        // a plain chain in the place of a sampling one has all its tries
+        x.setShare(50);
+        due.is("lay(0, 1)", x.lay(0, 1), 3);
+        due.is("kind(3)", x.kind(3), 1);
+        x.report(3, 1, true);
+        x.setShare(0);
+        due.is("lay(0, 1)", x.lay(0, 1), 3);
+        chainIs(x, 3, 0, 0, 1, 0, 2);
+        triesAre(x, 3, 6, 6, 6, 6);
+        due.is("tag(3)", x.tag(3), 4);
         // station 1 begins to draw at 8: its first draw is 3634, of 5 rates candidate 4
         x = Due.network(2, 1, 240, 1, 240, 1, 60, 1, 540, 1, 540);
         x.setShare(50);
@@ -221,6 +253,13 @@ public final class SendingTest {
             x.dispatch();
             due.is("the queue keeps its order", x.tag(chain), tags[chain]);
         }
+        x.report(2, 1, true);
+        x.report(4, 1, true);
+        due.is("dispatch()", x.dispatch(), 2);
+        due.is("dispatch()", x.dispatch(), 4);
+        due.is("tag(2)", x.tag(2), 28);
+        due.is("tag(4): the last frame", x.tag(4), 32);
+        due.is("queued(0)", x.queued(0), 0);
     }
 
     private static void dispatch() {
@@ -286,6 +325,33 @@ public final class SendingTest {
         y.enqueue(0, 1);
         due.is("a deficit of a million", y.dispatch(), 0);
         due.is("deficit(0)", y.deficit(0), 4000);
+        smallDeficits();
+    }
+
+    /** At 918 bytes three tries take 1237 + 1309 + 1453 = 3999. */
+    private static void smallDeficits() {
+        RetryChains x = Due.network(2, 0, 80);
+        for (int frame = 0; frame < 3; frame++) {
+            x.enqueue(0, 918);
+            x.enqueue(1, 918);
+        }
+        x.dispatch();
+        due.is("report(0, 3, true)", x.report(0, 3, true), 3999);
+        due.is("deficit(0)", x.deficit(0), 1);
+        x.dispatch();
+        due.is("a deficit of 1 is enough", x.stationOf(0), 0);
+        x = Due.network(2, 0, 80);
+        x.setBudget(100);
+        for (int frame = 0; frame < 3; frame++) {
+            x.enqueue(0, 681);
+            x.enqueue(1, 918);
+        }
+        x.dispatch();
+        due.is("report(0, 4, true): 252 + 681 + 67 each", x.report(0, 4, true), 4000);
+        due.is("deficit(0)", x.deficit(0), 0);
+        x.dispatch();
+        due.is("a deficit of 0 is not", x.stationOf(0), 1);
+        due.is("deficit(0)", x.deficit(0), 4000);
     }
 
     private static void report() {

@@ -98,6 +98,10 @@ public final class UpdateTest {
         Due.teach(x, 0, 0, 0);
         due.is("the tendency was 0 after the change", x.estimate(0, 0), 5897);
         due.is("events()", x.events(), 2);
+        x = learned(new int[] {1}, new int[] {2}, new int[] {2});
+        due.is("65536, 32768 (-), 32768 (a change)", x.estimate(0, 0), 32768);
+        Due.teach(x, 0, 0, 0);
+        due.is("the next jump the same way is a first one", x.estimate(0, 0), 32440);
     }
 
     private static RetryChains fourRates() {
@@ -164,7 +168,19 @@ public final class UpdateTest {
         due.is("eventKind(1)", x.eventKind(1), 2);
         due.is("eventKind(2)", x.eventKind(2), 3);
         due.is("inFallback(0)", x.inFallback(0), 1);
-        // after the collapse the tendencies are 0
+        // after the collapse the tendencies are 0: both fell by a jump before it and fall by one after it
+        RetryChains y = Due.network(1, 1, 540, 1, 240);
+        y.setWeight(1);
+        Due.teach(y, 0, 0, 1);
+        Due.teach(y, 0, 1, 1);
+        Due.teach(y, 0, 0, 2);
+        Due.tries(y, 0, 0, 2);
+        Due.tries(y, 0, 1, 2);
+        y.update(0);
+        due.is("collapse", y.inFallback(0), 1);
+        due.is("estimate(0, 0)", y.estimate(0, 0), 32768);
+        Due.teach(y, 0, 0, 0);
+        due.is("a first jump", y.estimate(0, 0), 32440);
         Due.tries(x, 0, 0, 1);
         due.is("inFallback(0)", x.inFallback(0), 0);
         x.update(0);
