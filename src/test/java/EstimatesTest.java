@@ -296,6 +296,8 @@ public final class EstimatesTest {
         due.is("mostUsed(-1)", x.mostUsed(-1), BAD);
         due.is("mostUsed(2)", x.mostUsed(2), BAD);
         due.is("no tries", x.mostUsed(0), NONE);
+        Due.tries(x, 0, 0, 1);
+        due.is("one try", x.mostUsed(0), 0);
         Due.tries(x, 0, 2, 3);
         due.is("mostUsed(0)", x.mostUsed(0), 2);
         due.is("mostUsed(1)", x.mostUsed(1), NONE);

@@ -162,6 +162,66 @@ public final class LogTest {
         due.is("lay(0, 1)", x.lay(0, 1), 1);
         due.is("kind(1): the draw is the same", x.kind(1), 1);
         undoOfUpdate();
+        undoOfChains();
+        undoOfLosses();
+        undoOfDispatch();
+    }
+
+    /** Another chain in the same place is taken out of it again. */
+    private static void undoOfChains() {
+        RetryChains x = Due.network(1, 1, 240, 1, 240, 1, 60, 1, 540);
+        x.setShare(50);
+        x.lay(0, 100);
+        x.lay(0, 100);
+        due.is("tag(1): a sampling chain", x.tag(1), 1202);
+        x.report(1, 1, true);
+        due.is("lay(0, 200)", x.lay(0, 200), 1);
+        due.is("tag(1): a plain chain", x.tag(1), 800);
+        x.undo();
+        x.undo();
+        due.is("kind(1)", x.kind(1), 1);
+        due.is("tag(1)", x.tag(1), 1202);
+        due.is("entryTries(1, 1)", x.entryTries(1, 1), 1);
+        x.report(0, 1, true);
+        x.undo();
+        due.is("kind(0)", x.kind(0), 0);
+        due.is("tag(0)", x.tag(0), 400);
+        due.is("entryRate(0, 1)", x.entryRate(0, 1), 1);
+    }
+
+    private static void undoOfLosses() {
+        RetryChains x = Due.network(1, 1, 540);
+        x.setBudget(100);
+        for (int loss = 0; loss < 4; loss++) {
+            x.lay(0, 100);
+        }
+        x.report(0, 4, false);
+        x.report(1, 4, false);
+        x.undo();
+        due.is("two losses", x.report(1, 4, false) > 0 ? x.inFallback(0) : BAD, 0);
+        due.is("the third loss", x.report(2, 4, false) > 0 ? x.inFallback(0) : BAD, 1);
+        x.undo();
+        due.is("inFallback(0)", x.inFallback(0), 0);
+        due.is("the third loss", x.report(3, 4, false) > 0 ? x.inFallback(0) : BAD, 1);
+    }
+
+    private static void undoOfDispatch() {
+        RetryChains x = Due.network(2, 0, 10);
+        for (int frame = 0; frame < 3; frame++) {
+            x.enqueue(0, 1200 + frame);
+            x.enqueue(1, 1300 + frame);
+        }
+        x.dispatch();
+        x.report(0, 1, true);
+        due.is("deficit(0)", x.deficit(0), -5919);
+        for (int round = 0; round < 2; round++) {
+            due.is("dispatch()", x.dispatch(), 0);
+            due.is("it is the turn of station 0 first", x.deficit(0), -1919);
+            due.is("stationOf(0)", x.stationOf(0), 1);
+            due.is("tag(0)", x.tag(0), 5201);
+            due.is("queued(1)", x.queued(1), 2);
+            x.undo();
+        }
     }
 
     private static void undoOfUpdate() {
