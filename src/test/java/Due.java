@@ -1,3 +1,5 @@
+import java.util.function.IntUnaryOperator;
+
 /** Compares answers with the due ones, and makes the states that the tests begin from. */
 final class Due {
     static final int BAD = -1, STATE = -2, FULL = -3, OVERFLOW = -4, NONE = -9;
@@ -21,6 +23,36 @@ final class Due {
         if (got != due) {
             wrong++;
             System.out.println(test + ", promise " + promise + ": " + call + " answered " + got + ", due is " + due);
+        }
+    }
+
+    int checks() {
+        return checks;
+    }
+
+    /** The least and the greatest argument are taken, the next ones outside and the farthest ones are BAD. */
+    void range(String call, IntUnaryOperator asked, int least, int greatest) {
+        for (int taken : new int[] {least, greatest}) {
+            is(call + " with " + taken + " is taken", asked.applyAsInt(taken) == BAD ? 0 : 1, 1);
+        }
+        is(call + " with " + (least - 1), asked.applyAsInt(least - 1), BAD);
+        bad(call, asked, Integer.MIN_VALUE);
+        if (greatest < Integer.MAX_VALUE) {
+            bad(call, asked, greatest + 1, Integer.MAX_VALUE);
+        }
+    }
+
+    /** Each of these arguments is BAD. */
+    void bad(String call, IntUnaryOperator asked, int... wrong) {
+        for (int argument : wrong) {
+            is(call + " with " + argument, asked.applyAsInt(argument), BAD);
+        }
+    }
+
+    /** The answers to the arguments 0, 1, 2 and so on. */
+    void row(String call, IntUnaryOperator asked, int... answers) {
+        for (int i = 0; i < answers.length; i++) {
+            is(call + " with " + i, asked.applyAsInt(i), answers[i]);
         }
     }
 
