@@ -387,6 +387,16 @@ final class ChainSentences {
             due.row("entryTries(1, ..)", entry -> x.entryTries(0, entry), 5, 5, 4, 1);
             x.lay(0, 1);
             due.row("entryTries(1, ..)", entry -> x.entryTries(1, entry), 6, 6, 6, 5);
+            // also where a sampling chain was before
+            RetryChains y = drawing(SLOW);
+            y.lay(0, 1);
+            due.row("entryTries(1, ..)", entry -> y.entryTries(1, entry), 6, 1, 6, 6);
+            y.report(1, 1, true);
+            y.setShare(0);
+            y.lay(0, 1);
+            chainIs(due, y, 1, 0, 0, 1, 0, 2);
+            due.row("entryTries(1, ..)", entry -> y.entryTries(1, entry), 6, 6, 6, 6);
+            due.is("tag(1)", y.tag(1), 4);
         });
     }
 

@@ -118,8 +118,8 @@ final class ChannelSentences {
                 channel(due, seed, 500, 20);
             }
         });
-        s.holds("for each try y becomes 1103515245 * y + 12345 (int, with overflow), and the try succeeds if (y >>> 16) % 1000 is "
-                + "less than the quality of its rate", due -> {
+        s.holds("for each try y becomes 1103515245 * y + 12345 (int, with overflow), and the try succeeds if (y >>> 16) % 1000 "
+                + "is less than the quality of its rate", due -> {
             channel(due, 7, 500, 50);
             channel(due, -123456789, 300, 50);
             channel(due, 99, 0, 50);

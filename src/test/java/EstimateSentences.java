@@ -327,7 +327,8 @@ final class EstimateSentences {
     private static void rateOfMode(Sentences s) {
         s.in("Promise 29");
         s.said("Returns the rate; BAD");
-        s.holds("Returns the rates of a mode in the order of ascending speed, those with the same speed by their numbers", due -> {
+        s.holds("Returns the rates of a mode in the order of ascending speed, those with the same speed by their numbers",
+            due -> {
             RetryChains x = Due.network(0, 1, 240, 1, 60, 0, 50, 1, 240, 2, 30, 1, 100, 1, 60, 0, 10);
             due.row("rateOfMode(1, ..)", k -> x.rateOfMode(1, k), 1, 6, 5, 0, 3, NONE);
             due.row("rateOfMode(0, ..)", k -> x.rateOfMode(0, k), 7, 2, NONE);
@@ -421,6 +422,9 @@ final class EstimateSentences {
             due.is("in all: 4 and 5", x.mostUsed(0), 0);
             x.allow(0, 0, false);
             due.is("also if it is forbidden", x.mostUsed(0), 0);
+            RetryChains y = Due.network(1, 1, 540, 1, 540, 1, 540, 1, 540, 1, 540, 1, 540, 1, 540, 1, 540);
+            Due.tries(y, 0, 7, 3);
+            due.is("the last of 8 rates", y.mostUsed(0), 7);
         });
         s.holds("of several the smallest number", due -> {
             RetryChains x = Due.network(1, 1, 540, 1, 240, 1, 60);
@@ -490,6 +494,11 @@ final class EstimateSentences {
             x.allow(0, 1, true);
             Due.teach(x, 0, 0, 1);
             due.is("1 is quick, 0 is sure", x.bestChain(0, 1200, 0), 1);
+            RetryChains y = Due.network(1, 1, 540, 1, 540, 1, 540, 1, 540, 1, 540, 1, 540, 1, 540, 1, 540);
+            Due.teach(y, 0, 5, 2);
+            bestIs(due, y, 1200, 5, 5, 5, 5);
+            Due.teach(y, 0, 7, 1);
+            bestIs(due, y, 1200, 7, 0, 0, 0);
         });
         s.holds("each with the number of its tries for the frame", due -> {
             for (int budget : new int[] {100, 1000, 3000, 100000}) {
@@ -529,6 +538,18 @@ final class EstimateSentences {
             Due.teach(x, 0, 1, 0);
             due.is("estimate(0, 1)", x.estimate(0, 1), 36864);
             due.is("36864 by 327 is less than 65536 by 551", x.bestChain(0, 1200, 0), 0);
+            // ratios so near that a quotient or a float takes them for equal
+            x = Due.network(1, 0, 80, 0, 62);
+            x.setBudget(100);
+            Due.teach(x, 0, 0, 1, 1, 2);
+            Due.teach(x, 0, 1, 1, 1, 1, 1, 1, 1, 1, 1, 1, 1, 2);
+            due.is("1157 and 1420", x.airTime(0, 905) * 10000 + x.airTime(1, 905), 1157 * 10000 + 1420);
+            bestIs(due, x, 905, 1, 1, 1, 1);
+            x = Due.network(1, 0, 80, 0, 353);
+            x.setBudget(100);
+            Due.teach(x, 0, 0, 1, 2);
+            Due.teach(x, 0, 1, 3, 4);
+            bestIs(due, x, 905, 0, 0, 0, 1);
         });
         s.holds("of several the lexicographically smallest sequence", due -> {
             RetryChains x = Due.network(1, 1, 60, 1, 240, 1, 540);
@@ -542,6 +563,18 @@ final class EstimateSentences {
             Due.teach(y, 0, 1, 2);
             due.is("equal rates", y.bestChain(0, 1200, 0), 1);
             due.is("equal rates", y.bestChain(0, 1200, 3), 1);
+            // 65536 by 259 + 67 and 32768 by 96 + 67: every sequence has the ratio 1 / 326
+            y = Due.network(1, 0, 1150, 1, 540);
+            y.setBudget(100);
+            Due.teach(y, 0, 0, 1);
+            Due.teach(y, 0, 1, 2);
+            bestIs(due, y, 100, 0, 0, 0, 0);
+            y = Due.network(1, 1, 540, 0, 1150);
+            y.setBudget(100);
+            Due.teach(y, 0, 0, 2);
+            Due.teach(y, 0, 1, 1);
+            bestIs(due, y, 100, 0, 0, 0, 0);
+            due.is("259 and 96", y.airTime(1, 100) * 1000 + y.airTime(0, 100), 259096);
         });
     }
 

@@ -39,6 +39,27 @@ final class HistorySentences {
         return x;
     }
 
+    /** The log is full, and the next update of station 1 finds a new first rate. */
+    private static RetryChains beforeNewFirst(List<int[]> told) {
+        RetryChains x = logged(20, told);
+        x.addRate(1, 540);
+        x.allow(1, 0, false);
+        x.lay(1, 1);
+        x.report(0, 1, true);
+        x.allow(1, 0, true);
+        return x;
+    }
+
+    /** The log is as told, also the oldest events, which others had taken the place of. */
+    private static void logIs(Due due, RetryChains x, List<int[]> told) {
+        for (int k = 0; k < 20; k++) {
+            int[] event = {x.eventKind(k), x.eventStation(k), x.eventRate(k), x.eventTime(k)};
+            for (int column = 0; column < 4; column++) {
+                due.is("event " + k + ", column " + column, event[column], told.get(k)[column]);
+            }
+        }
+    }
+
     private static void events(Sentences s) {
         s.in("Promise 45");
         s.said("Returns the number.");
@@ -181,15 +202,22 @@ final class HistorySentences {
     private static void save(Sentences s) {
         s.in("Promise 50");
         s.holds("Saves everything but the saved states and what can be undone", due -> {
-            for (int slot = 0; slot < 2; slot++) {
-                RetryChains x = Twins.travelled();
-                due.is("save", x.save(slot), x.time());
-                x.simulate(0, 50, 900, 3);
-                x.addRate(0, 10);
-                x.lay(1, 5);
-                due.is("restore", x.restore(slot), Twins.travelled().time());
-                Twins.alike(due, "restored from " + slot, x, Twins.travelled());
+            for (int way = 0; way < Twins.WAYS; way++) {
+                for (int slot = 0; slot < 2; slot++) {
+                    RetryChains x = Twins.travelled();
+                    due.is("save", x.save(slot), x.time());
+                    Twins.astray(x, way);
+                    due.is("restore", x.restore(slot), Twins.travelled().time());
+                    Twins.alike(due, "way " + way + " restored from " + slot, x, Twins.travelled());
+                }
             }
+            List<int[]> told = new ArrayList<>();
+            RetryChains full = beforeNewFirst(told);
+            full.save(1);
+            full.update(1);
+            due.is("another event", full.eventKind(0), 5);
+            full.restore(1);
+            logIs(due, full, told);
             // what is in the other slot, and what can be undone, is not saved
             RetryChains x = new RetryChains();
             x.pass(1);
@@ -296,14 +324,20 @@ final class HistorySentences {
             due.is("what was saved later stays", x.restore(0) >= 0 ? x.rateOfMode(0, 0) : BAD, 4);
             x.restore(1);
             due.is("digest()", x.digest(), later);
-            RetryChains y = Twins.travelled();
-            y.simulate(1, 50, 900, 3);
-            y.enqueue(0, 9);
-            y.setWeight(3);
-            for (int left = 4; left >= 2; left--) {
-                due.is("undo()", y.undo(), left);
+            for (int way = 0; way < Twins.WAYS; way++) {
+                RetryChains y = Twins.travelled();
+                int acts = Twins.astray(y, way);
+                for (int act = 0; act < acts; act++) {
+                    due.is("undo() on way " + way, y.undo(), 4 - act);
+                }
+                Twins.alike(due, "way " + way + " undone", y, Twins.travelled());
             }
-            Twins.alike(due, "undone", y, Twins.travelled());
+            List<int[]> told = new ArrayList<>();
+            RetryChains full = beforeNewFirst(told);
+            full.update(1);
+            due.is("another event", full.eventKind(0), 5);
+            full.undo();
+            logIs(due, full, told);
         });
         s.holds("Returns how many states the history still has", due -> {
             RetryChains x = new RetryChains();
@@ -366,8 +400,8 @@ final class HistorySentences {
             RetryChains y = Twins.travelled();
             due.is("with overflow", y.digest(), hashOf(y, 2, 4));
         });
-        s.holds("for each station: chains(), sampled(), delivered(), lost(), queued(), deficit(), inFallback(), role() for 0 to 3, "
-                + "and for each rate estimate(), triesOf(), successesOf()", due -> {
+        s.holds("for each station: chains(), sampled(), delivered(), lost(), queued(), deficit(), inFallback(), role() for 0 to "
+                + "3, and for each rate estimate(), triesOf(), successesOf()", due -> {
             for (int stations = 0; stations <= 4; stations++) {
                 RetryChains x = Due.network(stations);
                 for (int rates = 0; rates <= 8; rates += 4) {

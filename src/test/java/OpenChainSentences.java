@@ -281,6 +281,13 @@ final class OpenChainSentences {
                 reach = reach * 49152 / 65536;
             }
             due.is("rounded down", x.expectedTime(0), sum / 65536);
+            // 16 of 17 succeed; four tries of 4097: 4097 * (65536 + 3856 + 226 + 13) is 4353 * 65536 - 1
+            x = Due.network(1, 0, 80);
+            x.setBudget(100);
+            Due.teach(x, 0, 0, 1, 1, 1, 1, 1, 1, 1, 1, 1, 1, 1, 1, 1, 1, 1, 2);
+            due.is("estimate(0, 0)", x.estimate(0, 0), 61680);
+            x.lay(0, 3778);
+            due.is("just below 4353", x.expectedTime(0), 4352);
         });
         number(s, "expectedTime", RetryChains::expectedTime);
         noChain(s, "BAD if there is no such open chain", "expectedTime", RetryChains::expectedTime);

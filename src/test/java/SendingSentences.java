@@ -180,6 +180,17 @@ final class SendingSentences {
             // each got 4000, and station 0 was the first one that had some
             due.is("stationOf(0)", x.stationOf(0), 0);
             due.row("deficit", x::deficit, 4000, 4000, 4000);
+            x.dispatch();
+            due.is("0 has no frame", x.stationOf(1), 1);
+            x.enqueue(0, 1);
+            x.enqueue(1, 1);
+            x.dispatch();
+            due.is("it is the turn of 1, though all have 4000", x.stationOf(2), 1);
+            x.dispatch();
+            due.is("1 has no frame: 2", x.stationOf(3), 2);
+            x.dispatch();
+            due.is("2 has no frame: 0", x.stationOf(4), 0);
+            due.row("deficit", x::deficit, 4000, 4000, 4000);
         });
         s.holds("if it is not ready, it is the turn of the next station (after the last one of station 0)", due -> {
             RetryChains x = Due.network(4, 1, 540);
@@ -299,6 +310,7 @@ final class SendingSentences {
             x.enqueue(1, 1);
             x.dispatch();
             due.is("the turn stayed at 1", x.stationOf(1), 1);
+            due.is("deficit(0)", x.deficit(0), 0);
             due.is("undo()", x.undo(), 4);
             due.is("queued(1): dispatch() was undone", x.queued(1), 1);
         });

@@ -3,14 +3,13 @@
  * not, in all that can be asked and in all that it does afterwards.
  */
 public final class StateTest {
-    private static final int ASTRAY = 7;
     private static final Due due = new Due("StateTest");
 
     public static void main(String[] args) {
         due.promise("52");
-        for (int way = 0; way < ASTRAY; way++) {
+        for (int way = 0; way < Twins.WAYS; way++) {
             RetryChains x = Twins.travelled();
-            int acts = astray(x, way);
+            int acts = Twins.astray(x, way);
             for (int act = 0; act < acts; act++) {
                 due.is("undo() on way " + way, x.undo(), 4 - act);
             }
@@ -20,8 +19,8 @@ public final class StateTest {
         for (int slot = 0; slot < 2; slot++) {
             RetryChains x = Twins.travelled();
             x.save(slot);
-            for (int way = slot; way < ASTRAY; way += 2) {
-                astray(x, way);
+            for (int way = slot; way < Twins.WAYS; way += 2) {
+                Twins.astray(x, way);
             }
             x.restore(slot);
             sameAs("slot " + slot + " restored", x);
@@ -31,59 +30,6 @@ public final class StateTest {
         forecasts();
         errorsAreNoActs();
         due.end();
-    }
-
-    /** Five acts that change something each. */
-    private static int astray(RetryChains x, int way) {
-        switch (way) {
-            case 0:
-                x.addRate(0, 10);
-                x.addStation();
-                x.allow(0, 2, false);
-                x.setShare(3);
-                x.setWeight(99);
-                return 5;
-            case 1:
-                x.setInterval(1000);
-                x.setBudget(100);
-                x.setQuality(0, 0, 1);
-                x.enqueue(0, 999);
-                x.dispatch();
-                return 5;
-            case 2:
-                x.lay(1, 77);
-                x.report(3, 1, true);
-                x.pass(40000);
-                x.update(1);
-                x.simulate(0, 50, 2000, 4);
-                return 5;
-            case 3:
-                x.setQuality(0, 0, 0);
-                x.setQuality(0, 1, 0);
-                x.setQuality(0, 2, 0);
-                x.setQuality(0, 3, 0);
-                x.simulate(0, 4, 500, 4);
-                return 5;
-            case 4:
-                Twins.lose(x, 3);
-                x.lay(0, 5);
-                x.lay(0, 6);
-                x.report(0, 1, true);
-                x.lay(1, 7);
-                return 5;
-            case 5:
-                x.dispatch();
-                x.dispatch();
-                x.dispatch();
-                x.enqueue(0, 3);
-                x.enqueue(1, 4);
-                return 5;
-            default:
-                for (int act = 0; act < 5; act++) {
-                    x.simulate(act % 2, 20, 400, act);
-                }
-                return 5;
-        }
     }
 
     private static void sameAs(String what, RetryChains x) {

@@ -5,6 +5,9 @@ import java.util.function.ToLongFunction;
 
 /** Objects that were made alike have to answer alike, in all that can be asked and in all that they do afterwards. */
 final class Twins {
+    /** So many ways there are to go astray. */
+    static final int WAYS = 10;
+
     private Twins() {
     }
 
@@ -40,6 +43,8 @@ final class Twins {
         lose(x, 1);
         x.lay(0, 1004);
         lose(x, 0);
+        x.lay(1, 105);
+        lose(x, 0);
         return x;
     }
 
@@ -53,6 +58,81 @@ final class Twins {
             tries += x.entryTries(chain, entry);
         }
         return tries;
+    }
+
+    /** Up to five acts that change something each; answers how many there were. */
+    static int astray(RetryChains x, int way) {
+        switch (way) {
+            case 0:
+                x.addRate(0, 10);
+                x.addStation();
+                x.allow(0, 2, false);
+                x.setShare(3);
+                x.setWeight(99);
+                return 5;
+            case 1:
+                x.setInterval(1000);
+                x.setBudget(100);
+                x.setQuality(0, 0, 1);
+                x.enqueue(0, 999);
+                x.dispatch();
+                return 5;
+            case 2:
+                x.lay(1, 77);
+                x.report(3, 1, true);
+                x.pass(40000);
+                x.update(1);
+                x.simulate(0, 50, 2000, 4);
+                return 5;
+            case 3:
+                x.setQuality(0, 0, 0);
+                x.setQuality(0, 1, 0);
+                x.setQuality(0, 2, 0);
+                x.setQuality(0, 3, 0);
+                x.simulate(0, 4, 500, 4);
+                return 5;
+            case 4:
+                lose(x, 3);
+                x.lay(0, 5);
+                x.lay(0, 6);
+                x.report(0, 1, true);
+                x.lay(1, 7);
+                return 5;
+            case 5:
+                x.dispatch();
+                x.dispatch();
+                x.dispatch();
+                x.enqueue(0, 3);
+                x.enqueue(1, 4);
+                return 5;
+            case 6:
+                // other chains in the places of those that are open
+                x.report(2, 1, true);
+                x.report(3, 1, true);
+                x.lay(0, 8);
+                x.lay(0, 9);
+                x.lay(0, 10);
+                return 5;
+            case 7:
+                x.report(2, 1, true);
+                x.report(3, 1, true);
+                x.simulate(0, 40, 4000, 1);
+                x.simulate(1, 40, 4000, 2);
+                x.simulate(0, 40, 4000, 3);
+                return 5;
+            case 8:
+                x.update(0);
+                x.update(1);
+                x.dispatch();
+                x.report(2, 1, true);
+                x.report(3, 1, true);
+                return 5;
+            default:
+                for (int act = 0; act < 5; act++) {
+                    x.simulate(act % 2, 20, 400, act);
+                }
+                return 5;
+        }
     }
 
     /** Asks both for all that there is to ask, and for what they do then. */
@@ -122,19 +202,30 @@ final class Twins {
 
     /** What cannot be asked shows in what is done next. */
     private static void future(RetryChains x, List<Long> a) {
-        for (int station = 0; station < 2; station++) {
-            a.add((long) x.lay(station, 100));
+        a.add(x.digest());
+        int dispatched = x.dispatch();
+        a.add((long) x.tag(dispatched));
+        a.add(x.digest());
+        // few tries for each frame, so that no interval ends between the losses
+        a.add((long) x.setBudget(100));
+        for (int loss = 0; loss < 6; loss++) {
+            int station = 1 - loss % 2;
+            int chain = x.lay(station, 100);
+            a.add((long) chain);
             a.add((long) x.refusal(station, 0));
-            a.add((long) x.inFallback(station));
-            lose(x, (int) (long) a.get(a.size() - 3));
+            lose(x, chain);
             a.add((long) x.inFallback(station));
         }
+        a.add((long) x.setBudget(2500));
+        a.add(x.digest());
+        a.add((long) x.report(dispatched, 1, true));
         for (int frame = 0; frame < 3; frame++) {
-            a.add((long) x.dispatch());
-            int chain = (int) (long) a.get(a.size() - 1);
+            int chain = x.dispatch();
+            a.add((long) chain);
             a.add((long) x.tag(chain));
             a.add((long) x.report(chain, 1, true));
         }
+        a.add((long) x.update(0));
         a.add((long) x.pass(2000));
         a.add(x.digest());
         a.add((long) x.simulate(0, 20, 500, 8));
@@ -146,7 +237,9 @@ final class Twins {
         a.add((long) x.setBudget(100));
         for (int rate = 0; rate < 4; rate++) {
             a.add((long) x.setQuality(0, rate, 1));
+            a.add((long) x.setQuality(1, rate, 1));
             a.add((long) x.allow(0, rate, true));
+            a.add((long) x.allow(1, rate, true));
         }
         a.add((long) x.addRate(1, 100));
         a.add((long) x.addStation());

@@ -37,6 +37,24 @@ final class UpdateSentences {
         due.is("estimate(0, 0) at " + time, x.estimate(0, 0), 65536);
     }
 
+    /** The estimate after a try at the end of time, by a station whose interval began shortly before. */
+    private static int lateTries(boolean wasUpdated) {
+        RetryChains x = new RetryChains();
+        x.addRate(1, 540);
+        x.setInterval(1000);
+        if (wasUpdated) {
+            x.addStation();
+        }
+        x.pass(Integer.MAX_VALUE - 999);
+        if (!wasUpdated) {
+            x.addStation();
+        }
+        Due.tries(x, 0, 0, 1);
+        x.pass(Integer.MAX_VALUE - x.time());
+        x.pass(0);
+        return x.estimate(0, 0);
+    }
+
     private static void ends(Sentences s) {
         s.holds("when it is added, this is the present time plus the interval length", due -> {
             updatedAt(due, since(0, 1000), 1000);
@@ -47,6 +65,8 @@ final class UpdateSentences {
             x.addStation();
             Due.tries(x, 0, 0, 1);
             updatedAt(due, x, 100000);
+            // an end that is later than 2147483647 never comes
+            due.is("added late", lateTries(false), NONE);
         });
         s.holds("after each update it is the present time plus the interval length", due -> {
             RetryChains x = since(0, 1000);
@@ -66,6 +86,7 @@ final class UpdateSentences {
             due.is("before its end", x.estimate(0, 0), 49152);
             x.pass(1);
             due.is("1000 after a late end", x.estimate(0, 0), 53248);
+            due.is("an end that is later than 2147483647", lateTries(true), NONE);
         });
         s.holds("A later change of the interval length does not move an end that is set already", due -> {
             RetryChains x = since(0, 5000);
