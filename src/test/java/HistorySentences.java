@@ -1,5 +1,6 @@
 import java.util.ArrayList;
 import java.util.List;
+import java.util.function.Consumer;
 import java.util.function.IntUnaryOperator;
 import java.util.function.ToIntBiFunction;
 
@@ -199,6 +200,110 @@ final class HistorySentences {
         s.holds("BAD if slot is out of range", due -> due.bad(name, asked, 2, 3, -1, -2, MIN, MAX));
     }
 
+    /** One rate and one station, one try for each entry, no sampling. */
+    private static RetryChains plain() {
+        RetryChains x = Due.network(2, 1, 540);
+        x.setShare(0);
+        x.setBudget(100);
+        return x;
+    }
+
+    private static void frame(RetryChains x, int tries, boolean ok) {
+        x.report(x.lay(0, 1), tries, ok);
+    }
+
+    private interface Back {
+        void bring(RetryChains x, Consumer<RetryChains> acts, int count);
+    }
+
+    /** What no method answers shows only in what comes then. */
+    private static void hiddenIsBack(Due due, Back back) {
+        RetryChains x = plain();
+        frame(x, 1, true);
+        back.bring(x, y -> frame(y, 4, false), 2);
+        x.update(0);
+        due.is("tries of the interval", x.estimate(0, 0), 65536);
+        back.bring(x, y -> frame(y, 1, true), 2);
+        frame(x, 4, true);
+        x.update(0);
+        due.is("successes of the interval", x.estimate(0, 0), 65536 * 75 / 100 + 16384 * 25 / 100);
+        x = plain();
+        frame(x, 1, true);
+        x.update(0);
+        frame(x, 4, false);
+        x.update(0);
+        back.bring(x, y -> {
+            frame(y, 1, true);
+            y.update(0);
+        }, 3);
+        due.is("the first jump", x.estimate(0, 0), 49152);
+        frame(x, 4, false);
+        x.update(0);
+        due.is("the tendency: a second jump", x.estimate(0, 0), 0);
+        x = plain();
+        frame(x, 4, false);
+        frame(x, 4, false);
+        back.bring(x, y -> frame(y, 1, true), 2);
+        frame(x, 4, false);
+        due.is("losses in succession", x.inFallback(0), 1);
+        x = plain();
+        x.setInterval(1000);
+        x.update(0);
+        back.bring(x, y -> {
+            y.pass(700);
+            y.update(0);
+        }, 2);
+        frame(x, 1, true);
+        x.pass(999 - x.time());
+        due.is("the end of the interval", x.estimate(0, 0), NONE);
+        x.pass(1);
+        due.is("the end of the interval", x.estimate(0, 0), 65536);
+        hiddenOfChoicesIsBack(due, back);
+    }
+
+    private static void hiddenOfChoicesIsBack(Due due, Back back) {
+        RetryChains x = plain();
+        x.enqueue(0, 1);
+        x.enqueue(1, 1);
+        x.enqueue(1, 1);
+        back.bring(x, y -> {
+            y.dispatch();
+            y.dispatch();
+        }, 2);
+        x.enqueue(0, 2);
+        x.dispatch();
+        x.dispatch();
+        due.is("the turn: 0 and again 0", x.stationOf(1), 0);
+        due.is("the first frame of the queue", x.tag(0), 4);
+        due.is("the second frame of the queue", x.tag(1), 8);
+        x = Due.network(1, 1, 240, 1, 240, 1, 240, 1, 240, 1, 240, 1, 240, 1, 240);
+        x.setShare(50);
+        x.lay(0, 1);
+        back.bring(x, y -> {
+            y.lay(0, 1);
+            y.lay(0, 1);
+            y.lay(0, 1);
+        }, 3);
+        x.lay(0, 1);
+        due.is("the draw state: of 7 rates 3", x.tag(1), 12 + 3);
+        x = plain();
+        back.bring(x, y -> {
+            y.setQuality(0, 0, 1);
+            y.allow(0, 0, false);
+            y.setShare(1);
+            y.setWeight(1);
+            y.setInterval(1000);
+        }, 5);
+        back.bring(x, y -> {
+            y.setBudget(500);
+            y.addRate(0, 10);
+            y.addStation();
+        }, 3);
+        int[] before = {x.setQuality(0, 0, 2), x.allow(0, 0, true), x.setShare(2), x.setWeight(2), x.setInterval(2000),
+            x.setBudget(200), x.addRate(0, 10), x.addStation()};
+        due.row("settings", i -> before[i], 500, 1, 0, 25, 1000000, 100, 1, 2);
+    }
+
     private static void save(Sentences s) {
         s.in("Promise 50");
         s.holds("Saves everything but the saved states and what can be undone", due -> {
@@ -218,6 +323,11 @@ final class HistorySentences {
             due.is("another event", full.eventKind(0), 5);
             full.restore(1);
             logIs(due, full, told);
+            hiddenIsBack(due, (x, acts, count) -> {
+                x.save(count % 2);
+                acts.accept(x);
+                x.restore(count % 2);
+            });
             // what is in the other slot, and what can be undone, is not saved
             RetryChains x = new RetryChains();
             x.pass(1);
@@ -338,6 +448,12 @@ final class HistorySentences {
             due.is("another event", full.eventKind(0), 5);
             full.undo();
             logIs(due, full, told);
+            hiddenIsBack(due, (z, change, count) -> {
+                change.accept(z);
+                for (int act = 0; act < count; act++) {
+                    z.undo();
+                }
+            });
         });
         s.holds("Returns how many states the history still has", due -> {
             RetryChains x = new RetryChains();
