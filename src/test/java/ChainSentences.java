@@ -183,6 +183,14 @@ final class ChainSentences {
                 }
                 x.report(0, 1, true);
             }
+            // of one rate it is always this one
+            x = Due.network(1, 1, 240);
+            x.setShare(50);
+            x.lay(0, 1);
+            for (int draw = 0; draw < 4; draw++) {
+                x.report(x.lay(0, 1), 1, true);
+                refusalIs(due, x, 2, 12, 21);
+            }
             // forbidden rates are counted: of 8 rates 6
             x = drawing(1, 240, 1, 240, 1, 240, 1, 240, 1, 240, 1, 240, 1, 240, 1, 240);
             x.allow(0, 2, false);

@@ -356,6 +356,12 @@ final class ChannelSentences {
             due.is("457 by 884 is more", x.oracle(0, 1200), 0);
             due.is("at 4000 bytes 2756 and 1420", x.oracle(0, 4000), 1);
             due.is("at 1 byte 84 and 84", x.oracle(0, 1), 0);
+            // ratios so near that a quotient or a float takes them for equal: 895 * 17399 + 1 = 649 * 23994
+            RetryChains y = Due.network(1, 0, 13, 0, 18);
+            due.is("23994 and 17399", y.airTime(0, 3858) * 10000L + y.airTime(1, 3858), 23994 * 10000L + 17399);
+            y.setQuality(0, 0, 895);
+            y.setQuality(0, 1, 649);
+            due.is("649 by 17399 is more", y.oracle(0, 3858), 1);
         });
         s.holds("of several the smallest number", due -> {
             RetryChains x = Due.network(1, 1, 60, 1, 120, 1, 240, 1, 240);

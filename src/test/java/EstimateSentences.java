@@ -550,6 +550,13 @@ final class EstimateSentences {
             Due.teach(x, 0, 0, 1, 2);
             Due.teach(x, 0, 1, 3, 4);
             bestIs(due, x, 905, 0, 0, 0, 1);
+            RetryChains near = Due.network(1, 0, 115, 0, 287);
+            near.setBudget(100);
+            Due.teach(near, 0, 0, 1, 1, 1, 2, 2, 2, 2, 2);
+            Due.teach(near, 0, 1, 3, 4);
+            due.row("airTime(.., 3869)", rate -> near.airTime(rate, 3869), 2944, 1331);
+            due.row("estimate(0, ..)", rate -> near.estimate(0, rate), 40329, 18724);
+            bestIs(due, near, 3869, 0, 0, 0, 1);
         });
         s.holds("of several the lexicographically smallest sequence", due -> {
             RetryChains x = Due.network(1, 1, 60, 1, 240, 1, 540);

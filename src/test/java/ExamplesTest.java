@@ -1,93 +1,39 @@
-/** The four examples of the document, as they stand. */
+import java.nio.file.Files;
+import java.nio.file.Path;
+import java.util.regex.Matcher;
+import java.util.regex.Pattern;
+
+/** The four examples of the document, as they stand in it. */
 public final class ExamplesTest {
+    private static final Path DOCUMENT = Path.of("../shared/DOC.md");
+    private static final Pattern EXAMPLE = Pattern.compile("(?m)^(\\d)\\. [^:\n]*: (\\w+\\(.*)$");
+    private static final Pattern CALL = Pattern.compile("(\\w+)\\(([^)]*)\\) = (-?\\d+)[;.]");
     private static final Due due = new Due("ExamplesTest");
 
-    public static void main(String[] args) {
-        plainChain();
-        refusedCandidate();
-        simulatedChannel();
-        impossibleCalls();
+    public static void main(String[] args) throws Exception {
+        asTheDocumentHasThem();
         constants();
         due.end();
     }
 
-    private static void plainChain() {
-        due.promise("example 1");
-        RetryChains x = new RetryChains();
-        due.is("addRate(0, 10)", x.addRate(0, 10), 0);
-        due.is("addRate(1, 540)", x.addRate(1, 540), 1);
-        due.is("addStation()", x.addStation(), 0);
-        due.is("role(0, 0)", x.role(0, 0), 0);
-        due.is("role(0, 3)", x.role(0, 3), 0);
-        due.is("airTime(1, 1200)", x.airTime(1, 1200), 260);
-        due.is("lay(0, 1200)", x.lay(0, 1200), 0);
-        due.is("entryRate(0, 0)", x.entryRate(0, 0), 0);
-        due.is("entryTries(0, 0)", x.entryTries(0, 0), 1);
-        due.is("entryTries(0, 1)", x.entryTries(0, 1), 5);
-        due.is("report(0, 1, true)", x.report(0, 1, true), 9919);
-        due.is("update(0)", x.update(0), 1);
-        due.is("estimate(0, 0)", x.estimate(0, 0), 65536);
-        due.is("estimate(0, 1)", x.estimate(0, 1), -9);
-        due.is("time()", x.time(), 9919);
-    }
-
-    private static void refusedCandidate() {
-        due.promise("example 2");
-        RetryChains x = new RetryChains();
-        due.is("addRate(1, 60)", x.addRate(1, 60), 0);
-        due.is("addRate(1, 240)", x.addRate(1, 240), 1);
-        due.is("addStation()", x.addStation(), 0);
-        due.is("setShare(50)", x.setShare(50), 10);
-        due.is("setBudget(100)", x.setBudget(100), 6000);
-        due.is("lay(0, 500)", x.lay(0, 500), 0);
-        due.is("refusal(0, 0)", x.refusal(0, 0), 1);
-        due.is("lay(0, 500)", x.lay(0, 500), 1);
-        due.is("kind(1)", x.kind(1), 0);
-        due.is("report(0, 4, false)", x.report(0, 4, false), 2772);
-        due.is("report(0, 4, false)", x.report(0, 4, false), -1);
-        due.is("report(1, 5, true)", x.report(1, 5, true), -1);
-        due.is("lost(0)", x.lost(0), 1);
-        due.is("chains(0)", x.chains(0), 2);
-        due.is("sampled(0)", x.sampled(0), 0);
-    }
-
-    private static void simulatedChannel() {
-        due.promise("example 3");
-        RetryChains x = new RetryChains();
-        due.is("addRate(1, 60)", x.addRate(1, 60), 0);
-        due.is("addRate(1, 240)", x.addRate(1, 240), 1);
-        due.is("addStation()", x.addStation(), 0);
-        due.is("setQuality(0, 0, 1000)", x.setQuality(0, 0, 1000), 500);
-        due.is("setQuality(0, 1, 0)", x.setQuality(0, 1, 0), 500);
-        due.is("forecast(0, 10, 1000, 3)", x.forecast(0, 10, 1000, 3), 10);
-        due.is("simulate(0, 10, 1000, 3)", x.simulate(0, 10, 1000, 3), 10);
-        due.is("delivered(0)", x.delivered(0), 10);
-        due.is("triesOf(0, 1)", x.triesOf(0, 1), 0);
-        due.is("update(0)", x.update(0), 1);
-        due.is("role(0, 0)", x.role(0, 0), 0);
-        due.is("mostUsed(0)", x.mostUsed(0), 0);
-        due.is("oracle(0, 1000)", x.oracle(0, 1000), 0);
-        due.is("bestChain(0, 1000, 0)", x.bestChain(0, 1000, 0), 0);
-        due.is("throughput(0, 0, 1000)", x.throughput(0, 0, 1000), 369216);
-    }
-
-    private static void impossibleCalls() {
-        due.promise("example 4");
-        RetryChains x = new RetryChains();
-        due.is("addStation()", x.addStation(), 0);
-        due.is("lay(0, 100)", x.lay(0, 100), -2);
-        due.is("addRate(0, 5)", x.addRate(0, 5), -1);
-        due.is("addRate(0, 100)", x.addRate(0, 100), 0);
-        due.is("throughput(0, 0, 1)", x.throughput(0, 0, 1), -9);
-        due.is("pass(2147483647)", x.pass(2147483647), 2147483647);
-        due.is("pass(1)", x.pass(1), -4);
-        due.is("undo()", x.undo(), 2);
-        due.is("time()", x.time(), 0);
-        due.is("enqueue(0, 100)", x.enqueue(0, 100), 1);
-        due.is("dispatch()", x.dispatch(), 0);
-        due.is("dispatch()", x.dispatch(), -9);
-        due.is("deficit(0)", x.deficit(0), 4000);
-        due.is("undo()", x.undo(), 3);
+    private static void asTheDocumentHasThem() throws Exception {
+        String document = Files.readString(DOCUMENT);
+        Matcher example = EXAMPLE.matcher(document.substring(document.indexOf("\nExamples:")));
+        int examples = 0;
+        int calls = 0;
+        while (example.find()) {
+            due.promise("example " + example.group(1) + ", as it stands");
+            examples++;
+            RetryChains x = new RetryChains();
+            Matcher call = CALL.matcher(example.group(2));
+            while (call.find()) {
+                due.is(call.group(), Asked.answer(x, call.group(1), call.group(2)), Long.parseLong(call.group(3)));
+                calls++;
+            }
+        }
+        due.promise("the examples");
+        due.is("examples", examples, 4);
+        due.is("calls in all", calls, 59);
     }
 
     private static void constants() {

@@ -378,6 +378,16 @@ final class SendingSentences {
         });
     }
 
+    /** Chain 0 is plain, chain 1 is a sampling one; each has four tries. */
+    private static RetryChains plainAndSampling() {
+        RetryChains x = Due.network(1, 1, 240, 1, 240, 1, 240, 1, 240);
+        x.setShare(50);
+        x.setBudget(100);
+        x.lay(0, 100);
+        x.lay(0, 100);
+        return x;
+    }
+
     private static void reportOutcome(Sentences s) {
         s.holds("the present time increases by the time that the tries take", due -> {
             RetryChains x = threeRates();
@@ -432,6 +442,19 @@ final class SendingSentences {
             due.is("delivered(0)", x.delivered(0), 2);
             Due.tries(x, 0, 0, 0, 0);
             due.is("two losses after it", x.inFallback(0), 0);
+            // whatever the kind of its chain is
+            for (int chain = 0; chain < 2; chain++) {
+                x = plainAndSampling();
+                Due.tries(x, 0, 0, 0, 0);
+                x.report(chain, 1, true);
+                Due.tries(x, 0, 0, 0, 0);
+                due.is("two and two losses around kind " + chain, x.inFallback(0), 0);
+                x = plainAndSampling();
+                Due.tries(x, 0, 0, 0, 0, 0);
+                x.report(chain, 1, true);
+                due.row("eventKind after kind " + chain, x::eventKind, 4, 3, NONE);
+                due.is("inFallback(0)", x.inFallback(0), 0);
+            }
         });
         s.holds("if not, they increase by 1, and if they are 3 then and it is not in fallback, fallback begins (event 3)",
             due -> {
@@ -455,6 +478,25 @@ final class SendingSentences {
             Due.tries(x, 0, 0, 0, 0, 0);
             due.is("it is in fallback already", x.events(), 2);
             due.is("inFallback(0)", x.inFallback(0), 1);
+            // whatever the kinds of their chains are
+            x = plainAndSampling();
+            due.row("kind", x::kind, 0, 1);
+            x.report(1, 4, false);
+            x.report(0, 4, false);
+            due.is("2 of two kinds", x.inFallback(0), 0);
+            Due.tries(x, 0, 0, 0);
+            due.is("3 of two kinds", x.inFallback(0), 1);
+            for (int chain = 0; chain < 4; chain++) {
+                x.lay(0, 100);
+                due.is("a fallback chain", x.kind(chain), 2);
+            }
+            x.report(0, 1, true);
+            due.is("inFallback(0)", x.inFallback(0), 0);
+            x.report(1, 4, false);
+            x.report(2, 4, false);
+            due.is("2 of fallback chains", x.inFallback(0), 0);
+            x.report(3, 4, false);
+            due.is("3 of fallback chains", x.inFallback(0), 1);
         });
         s.holds("Then stations are updated whose interval has ended", due -> {
             RetryChains x = new RetryChains();

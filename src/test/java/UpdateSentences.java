@@ -255,6 +255,13 @@ final class UpdateSentences {
             x = certain();
             x.update(0);
             due.is("none", x.inFallback(0), 0);
+            x = certain();
+            Due.tries(x, 0, 0, 0);
+            Due.tries(x, 0, 1, 0);
+            x.allow(0, 0, false);
+            x.allow(0, 1, false);
+            x.update(0);
+            due.is("two that are forbidden then", x.inFallback(0), 1);
         });
         s.holds("and t is -1 for all of these", due -> {
             RetryChains x = certain();
@@ -279,6 +286,13 @@ final class UpdateSentences {
             Due.tries(x, 0, 0, 1);
             Due.teach(x, 0, 1, 0);
             due.is("1 for one of two", x.inFallback(0), 0);
+            x = certain();
+            Due.tries(x, 0, 0, 0);
+            Due.tries(x, 0, 1, 0);
+            Due.tries(x, 0, 2, 1);
+            x.allow(0, 2, false);
+            x.update(0);
+            due.is("not for one that is forbidden then", x.inFallback(0), 0);
         });
         s.holds("the estimates of all rates with tries in the interval become their samples", due -> {
             RetryChains x = certain();
@@ -385,6 +399,16 @@ final class UpdateSentences {
                 due.is("eventKind(" + k + ")", x.eventKind(k), 1);
                 due.is("eventRate(" + k + ")", x.eventRate(k), 2 - k);
             }
+            // a rate that is forbidden after its tries learns, too
+            x = Due.network(1, 1, 540, 1, 240);
+            int[] estimates = {65536, 49152, 0};
+            for (int round = 0; round < 3; round++) {
+                Due.tries(x, 0, 1, round == 0 ? 1 : 0);
+                x.allow(0, 1, false);
+                x.update(0);
+                due.is("forbidden, round " + round, x.estimate(0, 1), estimates[round]);
+            }
+            due.is("the sudden change of a forbidden rate", x.eventRate(0), 1);
         });
         s.holds("without an estimate, the estimate becomes the sample (the tendency stays 0)", due -> {
             RetryChains x = Due.network(1, 1, 540);
@@ -431,6 +455,14 @@ final class UpdateSentences {
             due.is("events()", x.events(), 0);
             Due.teach(x, 0, 0, 1);
             due.is("1 after 1", x.estimate(0, 0), 65536);
+            x = Due.network(1, 1, 540);
+            x.setWeight(100);
+            Due.teach(x, 0, 0, 1);
+            Due.teach(x, 0, 0, 0);
+            due.is("-1 after 0, weight 100", x.estimate(0, 0), 0);
+            Due.teach(x, 0, 0, 1);
+            due.is("1 after -1, weight 100", x.estimate(0, 0), 65536);
+            due.is("these are no changes", x.events(), 0);
         });
         s.holds("the estimate becomes the sample, the tendency 0, event 1 is logged", due -> {
             RetryChains x = Due.network(1, 1, 540, 1, 540);
