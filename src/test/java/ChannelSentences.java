@@ -254,7 +254,28 @@ final class ChannelSentences {
             due.is("chains(0)", x.chains(0), 50);
             due.is("time()", x.time(), LATEST + 50 * 4 * 32319);
             due.is("again", x.simulate(0, 1, 1, 1), OVERFLOW);
+            // late frames fare like early ones, and intervals end as ever
+            RetryChains early = threeUpdates(0);
+            RetryChains late = threeUpdates(LATEST);
+            due.is("time()", late.time(), LATEST + early.time());
+            due.is("delivered(0)", late.delivered(0), early.delivered(0));
+            due.is("events()", late.events(), early.events());
+            due.row("estimate(0, ..)", rate -> late.estimate(0, rate), early.estimate(0, 0), early.estimate(0, 1), BAD);
         });
+    }
+
+    /** Frames of some three intervals, simulated at this time. */
+    private static RetryChains threeUpdates(int time) {
+        RetryChains x = new RetryChains();
+        x.addRate(1, 540);
+        x.addRate(1, 60);
+        x.setInterval(120000);
+        x.addStation();
+        x.setQuality(0, 0, 30);
+        x.setQuality(0, 1, 60);
+        x.pass(time);
+        x.simulate(0, 30, 1200, 5);
+        return x;
     }
 
     private static void wrongArguments(Due due, Simulation call) {

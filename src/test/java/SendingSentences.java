@@ -497,6 +497,19 @@ final class SendingSentences {
             due.is("2 of fallback chains", x.inFallback(0), 0);
             x.report(3, 4, false);
             due.is("3 of fallback chains", x.inFallback(0), 1);
+            // and also if no rate is allowed any more
+            x = plainAndSampling();
+            x.lay(0, 100);
+            x.lay(0, 100);
+            Due.allowOnly(x, 0, 0);
+            x.report(0, 4, false);
+            x.report(1, 4, false);
+            due.is("2 of a station without rates", x.inFallback(0), 0);
+            x.report(2, 4, false);
+            due.is("3 of a station without rates", x.inFallback(0), 1);
+            x.report(3, 1, true);
+            due.is("a delivered frame of a station without rates", x.inFallback(0), 0);
+            due.row("eventKind", x::eventKind, 4, 3, NONE);
         });
         s.holds("Then stations are updated whose interval has ended", due -> {
             RetryChains x = new RetryChains();

@@ -1,3 +1,5 @@
+import java.util.function.IntUnaryOperator;
+
 /** The sentences under UPDATES. */
 final class UpdateSentences {
     private static final int NONE = Due.NONE;
@@ -233,6 +235,12 @@ final class UpdateSentences {
         return x;
     }
 
+    /** The estimates after an update that is a collapse. */
+    private static IntUnaryOperator collapsed(RetryChains x) {
+        x.update(0);
+        return rate -> x.inFallback(0) == 1 ? x.estimate(0, rate) : Due.BAD;
+    }
+
     private static void collapse(Sentences s) {
         s.holds("- Collapse: if two or more rates with tries in the interval had an estimate", due -> {
             RetryChains x = certain();
@@ -302,6 +310,21 @@ final class UpdateSentences {
             due.is("estimate(0, 0)", x.estimate(0, 0), 0);
             due.is("estimate(0, 1)", x.estimate(0, 1), 9362);
             due.is("estimate(0, 3): it had none", x.estimate(0, 3), 65536);
+            x = certain();
+            Due.tries(x, 0, 0, 0);
+            Due.tries(x, 0, 1, 0, 0, 3);
+            due.is("not in fallback before", x.inFallback(0), 0);
+            due.row("estimate(0, ..)", collapsed(x), 0, 5957, 32768, NONE);
+            x = certain();
+            Due.tries(x, 0, 1, 0, 3);
+            Due.tries(x, 0, 0, 0, 0, 0);
+            due.is("in fallback before", x.inFallback(0), 1);
+            due.row("estimate(0, ..)", collapsed(x), 0, 9362, 32768, NONE);
+            x = certain();
+            Due.tries(x, 0, 0, 0);
+            Due.tries(x, 0, 1, 3, 0);
+            Due.allowOnly(x, 0, 0);
+            due.row("estimate(0, ..) of rates that are all forbidden then", collapsed(x), 0, 9362, 32768, NONE);
         });
         s.holds("and their tendencies 0", due -> {
             RetryChains x = Due.network(1, 1, 540, 1, 240);
@@ -409,6 +432,15 @@ final class UpdateSentences {
                 due.is("forbidden, round " + round, x.estimate(0, 1), estimates[round]);
             }
             due.is("the sudden change of a forbidden rate", x.eventRate(0), 1);
+            x = Due.network(1, 1, 540, 1, 240);
+            x.setWeight(1);
+            int[][] frames = {{1}, {2}, {2}, {0}};
+            for (int[] round : frames) {
+                Due.tries(x, 0, 1, round);
+                x.allow(0, 1, false);
+                x.update(0);
+            }
+            due.is("the tendency was 0 after it", x.estimate(0, 1), 32440);
         });
         s.holds("without an estimate, the estimate becomes the sample (the tendency stays 0)", due -> {
             RetryChains x = Due.network(1, 1, 540);
@@ -462,6 +494,9 @@ final class UpdateSentences {
             due.is("-1 after 0, weight 100", x.estimate(0, 0), 0);
             Due.teach(x, 0, 0, 1);
             due.is("1 after -1, weight 100", x.estimate(0, 0), 65536);
+            Due.teach(x, 0, 0, 0);
+            Due.teach(x, 0, 0, 1);
+            due.is("1 after -1 after 1, weight 100", x.estimate(0, 0), 65536);
             due.is("these are no changes", x.events(), 0);
         });
         s.holds("the estimate becomes the sample, the tendency 0, event 1 is logged", due -> {
@@ -523,6 +558,11 @@ final class UpdateSentences {
             due.is("inFallback(0)", x.inFallback(0), 0);
             x.update(0);
             due.is("no fallback, no event", x.events(), 4);
+            Due.tries(x, 0, 0, 0, 0, 0);
+            Due.allowOnly(x, 0, 0);
+            x.update(0);
+            due.is("also if no rate is allowed", x.inFallback(0), 0);
+            due.row("eventKind", x::eventKind, 4, 3, 5);
             x = collapsing();
             x.update(0);
             x.update(0);
@@ -549,6 +589,13 @@ final class UpdateSentences {
             due.is("two losses and two losses", x.inFallback(0), 0);
             Due.tries(x, 0, 0, 0);
             due.is("and one more", x.inFallback(0), 1);
+            x.update(0);
+            due.is("the update ends the fallback", x.inFallback(0), 0);
+            Due.tries(x, 0, 0, 0, 0);
+            due.is("three losses, and two after the update", x.inFallback(0), 0);
+            Due.tries(x, 0, 0, 0);
+            due.is("and the third one", x.inFallback(0), 1);
+            due.row("eventKind", x::eventKind, 3, 4, 3, NONE);
         });
         s.holds("the roles are filled anew", due -> {
             RetryChains x = certain();
